@@ -1029,15 +1029,23 @@ public final class FewTypes {
 
         /** FEWEST for all places; NONE if there are no such pulls. */
         int solve() {
-            int sets = 1 << places;
+            int all = (1 << places) - 1;
+            if (inks(all)) {
+                least[all] = 1;
+            } else {
+                fillLeast(all);
+            }
+            return least[all] < NEVER ? least[all] : NONE;
+        }
+
+        private void fillLeast(int all) {
             fillRows(0, places - 1);
             least[0] = 0;
-            for (int set = 1; set < sets; set++) {
+            for (int set = 1; set <= all; set++) {
                 // the set before differs only up to the lowest place, so the rows behind it still hold
                 fillRows(set, lowestOf(set));
                 least[set] = isEnough(0, allUseful()) ? 1 : leastApart(set);
             }
-            return least[sets - 1] < NEVER ? least[sets - 1] : NONE;
         }
 
         /** The first plan, by what solve() found. */
@@ -1050,9 +1058,12 @@ public final class FewTypes {
         }
 
         private int firstPull(int rest) {
-            for (int set = 1; set < rest; set++) {
-                if ((set & ~rest) == 0 && least[set] == 1 && least[rest ^ set] == least[rest] - 1) {
-                    return set;
+            // solve() fills no other set, if one pull inks all
+            if (least[rest] > 1) {
+                for (int set = 1; set < rest; set++) {
+                    if ((set & ~rest) == 0 && least[set] == 1 && least[rest ^ set] == least[rest] - 1) {
+                        return set;
+                    }
                 }
             }
             return rest;
@@ -1102,8 +1113,8 @@ public final class FewTypes {
         }
 
         private int leastType(int set, int p, int free) {
-            int singles = mayBeAlone(set, p) ? alone[p] : 0;
-            int pairs = mayBeJoined(set, p) ? joined[p] : 0;
+            int singles = mayPrintAlone(set, p);
+            int pairs = mayPrintJoined(set, p);
             for (int type = 0; type < useful; type++) {
                 if (inSet(free, type)) {
                     int others = free & ~(1 << type);
@@ -1129,12 +1140,27 @@ public final class FewTypes {
             return set & set >> 1 & besides;
         }
 
-        private boolean mayBeAlone(int set, int p) {
-            return !wedges || !inSet(pairsOf(set), p);
+        /** Types that may print a place of a set alone; by wedges it has no next one beside it. */
+        private int mayPrintAlone(int set, int p) {
+            return wedges && inSet(pairsOf(set), p) ? 0 : alone[p];
         }
 
-        private boolean mayBeJoined(int set, int p) {
-            return inSet(pairsOf(set), p) && !(wedges && inSet(pairsOf(set), p + 1));
+        /** Types that may print a place of a set and the next one; by wedges no third one is beside them. */
+        private int mayPrintJoined(int set, int p) {
+            int pairs = pairsOf(set);
+            return !inSet(pairs, p) || wedges && inSet(pairs, p + 1) ? 0 : joined[p];
+        }
+
+        private void fillRows(int set, int from) {
+            for (int p = from; p >= 0; p--) {
+                if (inSet(set, p)) {
+                    setRow(p, 0L);
+                    addWays(p, p + 1, mayPrintAlone(set, p));
+                    addWays(p, p + 2, mayPrintJoined(set, p));
+                } else {
+                    System.arraycopy(rows, (p + 1) * WORDS, rows, p * WORDS, words);
+                }
+            }
         }
 
         private void setRow(int p, long word) {
@@ -1143,45 +1169,22 @@ public final class FewTypes {
             }
         }
 
-        private void fillRows(int set, int from) {
-            for (int p = from; p >= 0; p--) {
-                if (inSet(set, p)) {
-                    setRow(p, 0L);
-                    if (mayBeAlone(set, p)) {
-                        addWays(p, p + 1, alone[p]);
-                    }
-                    if (mayBeJoined(set, p)) {
-                        addWays(p, p + 2, joined[p]);
-                    }
-                } else {
-                    System.arraycopy(rows, (p + 1) * WORDS, rows, p * WORDS, words);
-                }
-            }
-        }
-
         /** Free types are enough in row p, if one of them prints and the others are enough in the row behind. */
         private void addWays(int p, int behind, int printing) {
-            for (int type = 0; type < useful; type++) {
+            int to = p * WORDS;
+            int from = behind * WORDS;
+            for (int type = 0; printing >> type != 0; type++) {
                 if (inSet(printing, type)) {
                     if (type < LACKING.length) {
-                        addInWords(p * WORDS, behind * WORDS, type);
+                        for (int word = 0; word < words; word++) {
+                            rows[to + word] |= (rows[from + word] & LACKING[type]) << (1 << type);
+                        }
                     } else {
-                        addAcrossWords(p * WORDS, behind * WORDS, 1 << (type - LACKING.length));
+                        int step = 1 << (type - LACKING.length);
+                        for (int word = step; word < words; word++) {
+                            rows[to + word] |= (word & step) != 0 ? rows[from + word - step] : 0L;
+                        }
                     }
-                }
-            }
-        }
-
-        private void addInWords(int to, int from, int type) {
-            for (int word = 0; word < words; word++) {
-                rows[to + word] |= (rows[from + word] & LACKING[type]) << (1 << type);
-            }
-        }
-
-        private void addAcrossWords(int to, int from, int step) {
-            for (int word = step; word < words; word++) {
-                if ((word & step) != 0) {
-                    rows[to + word] |= rows[from + word - step];
                 }
             }
         }
@@ -1189,10 +1192,10 @@ public final class FewTypes {
 
     /** Orders of a plan's pulls. */
     private static final class Orders {
-        private static final int SHIFTS = 2 * MOST_ORDERED - 1, BEYOND = 1000;
+        private static final int BEYOND = 1000;
 
-        /** For two pulls, and for how many pulls the second goes behind the first: their clashes. */
-        private final int[] clashes = new int[MOST_ORDERED * MOST_ORDERED * SHIFTS];
+        /** Clashes of a pull with one that goes so many pulls later. */
+        private final int[] clashes = new int[MOST_ORDERED * MOST_ORDERED * MOST_ORDERED];
         private final int[] tried = new int[MOST_ORDERED];
         final int[] best = new int[MOST_ORDERED];
         private int pulls = 0;
@@ -1221,22 +1224,22 @@ public final class FewTypes {
             return pulls - 1;
         }
 
-        private void weighPair(Shop shop, int p, int q, int first, int second) {
-            int start = shop.told.left(p, shop.widths);
-            int end = start + shop.widths[shop.told.letters[p]];
-            int otherLeft = shop.told.left(q, shop.widths);
-            int otherWidth = shop.widths[shop.told.letters[q]];
-            for (int later = 1 - pulls; later < pulls; later++) {
-                int otherStart = otherLeft + later * shop.rules[CREEP];
-                if (otherStart < end && start < otherStart + otherWidth) {
-                    clashes[slot(first, second, later)]++;
-                    clashes[slot(second, first, -later)]++;
+        /** Paper creeps one way: only the place ahead, if it is pulled later, comes into the one behind it. */
+        private void weighPair(Shop shop, int ahead, int behind, int pullAhead, int pullBehind) {
+            int start = shop.told.left(ahead, shop.widths);
+            int end = start + shop.widths[shop.told.letters[ahead]];
+            int otherStart = shop.told.left(behind, shop.widths);
+            int otherEnd = otherStart + shop.widths[shop.told.letters[behind]];
+            for (int later = 1; later < pulls; later++) {
+                int crept = later * shop.rules[CREEP];
+                if (start + crept < otherEnd && otherStart < end + crept) {
+                    clashes[slot(pullBehind, pullAhead, later)]++;
                 }
             }
         }
 
         private static int slot(int first, int second, int later) {
-            return (first * MOST_ORDERED + second) * SHIFTS + later + MOST_ORDERED - 1;
+            return (first * MOST_ORDERED + second) * MOST_ORDERED + later;
         }
 
         int clashesAsPlanned() {

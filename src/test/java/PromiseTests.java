@@ -486,6 +486,13 @@ public final class PromiseTests {
         due("17 off", 0, x.order(-1));
         due("17 off", 0, x.order(0));
         due("17 off", 1, x.order(1));
+        x = shop("a", "aaaaaa");
+        due("17 six", 5, x.order(5));
+        due("17 no seventh", NONE, x.order(6));
+        x.rule(1, 3);
+        x.width(0, 1);
+        // one hair each, three on at each pull: only another order could bring them together
+        due("17 six apart", 0, x.order(-1));
         // plan 1 (a), 6 (b, a): the later ones creep away from the first
         x = shop("a,c", "aca");
         x.rule(1, 1);
@@ -501,6 +508,20 @@ public final class PromiseTests {
         due("17 best first", 1, x.order(0));
         due("17 best second", 0, x.order(1));
         due("17 no third", NONE, x.order(2));
+        // plan 2 (b), 5 (a, a): the first a creeps into b, the other way round b into the last a
+        x = shopByWedges("a,b,a", "aba");
+        x.rule(1, 3);
+        x.width(1, 3);
+        due("17 plan", 2, x.plan(0));
+        due("17 plan", 5, x.plan(1));
+        due("17 like ones", 1, x.order(-1));
+        due("17 like ones", 1, x.order(-2));
+        due("17 like ones, the first", 0, x.order(0));
+        x.rule(1, 2);
+        due("17 by 2", 1, x.order(-1));
+        x.width(0, 4);
+        x.width(1, 2);
+        due("17 by 2", 1, x.order(-1));
     }
 
     private static void promise18Make() {
@@ -525,6 +546,11 @@ public final class PromiseTests {
         due("18 gone", 3, x.count(0));
         due("18 those behind", 1, x.told(0, 1));
         due("18 can't", NONE, x.make(1));
+        x = shop("ma3", "a");
+        due("18 worn", 1, x.make(2));
+        due("18 one left", 1, x.told(0, 2));
+        due("18 more than is left", 2, x.make(8));
+        due("18 gone", 0, x.count(0));
         x = shop("mb1,ma1,a,b", "ab");
         due("18 two gone", 1, x.make(1));
         due("18 two gone", 2, x.count(0));
@@ -613,8 +639,9 @@ public final class PromiseTests {
         line(x, "aab");
         x.text(0);
         due("22 fewer", 1, x.said(0));
-        line(x, "bba");
+        line(x, "ab_a");
         x.text(0);
+        due("22 of like ones", 1, x.needs(2));
         due("22 of like ones the first", 1, x.said(0));
         line(x, "ab");
         x.text(1);
