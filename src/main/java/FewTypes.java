@@ -177,14 +177,14 @@ public final class FewTypes {
     }
 
     public int fewest() {
-        return pullsOfTheLine();
+        return pullsFor(THE_LINE);
     }
 
     public int plan(int k) {
         if (k < 0 || k >= MOST_PLACES) {
             return BAD;
         }
-        int pulls = pullsOfTheLine();
+        int pulls = pullsFor(THE_LINE);
         if (pulls < 0) {
             return pulls;
         }
@@ -210,7 +210,7 @@ public final class FewTypes {
         if (k < BEST_CLASHES || k >= MOST_PLACES) {
             return BAD;
         }
-        int pulls = pullsOfTheLine();
+        int pulls = pullsFor(THE_LINE);
         if (pulls < 0) {
             return pulls;
         }
@@ -232,7 +232,7 @@ public final class FewTypes {
         if (n < 1 || n > MOST_MADE) {
             return BAD;
         }
-        int pulls = pullsOfTheLine();
+        int pulls = pullsFor(THE_LINE);
         if (pulls < 0) {
             return pulls;
         }
@@ -464,14 +464,13 @@ public final class FewTypes {
         press.lock(now.told, now.types, now.rules[WEDGES] == 1);
     }
 
-    private int pullsOfTheLine() {
-        return now.told.size == 0 ? NOT : pullsFor(THE_LINE);
-    }
-
-    /** FEWEST of a text or of the line, or NONE; for the line the plan is found, too. */
+    /** FEWEST of a text or of the line, or NOT, NONE; for the line the plan is found, too. */
     private int pullsFor(int which) {
+        Line wanted = which == THE_LINE ? now.told : now.texts[which];
+        if (wanted.size == 0) {
+            return NOT;
+        }
         if (pullsKept[which] == UNKNOWN) {
-            Line wanted = which == THE_LINE ? now.told : now.texts[which];
             pullsKept[which] = NONE;
             if (wanted.isSayable(now.types, NO_TYPE)) {
                 press.lock(wanted, now.types, now.rules[WEDGES] == 1);
@@ -988,18 +987,22 @@ public final class FewTypes {
         private boolean wedges = false;
         private int useful = 0;
         private int words = 1;
+        /** More places than these no pull inks. */
+        private int capacity = 0;
 
         void lock(Line line, Case types, boolean withWedges) {
             places = line.size;
             besides = line.besides;
             wedges = withWedges;
             useful = 0;
+            capacity = 0;
             Arrays.fill(alone, 0);
             Arrays.fill(joined, 0);
             for (int type = 0; type < types.size; type++) {
                 if (lockType(line, types, type)) {
                     numbers[useful] = type;
                     useful++;
+                    capacity += types.kinds[type] == JOINED ? 2 : 1;
                 }
             }
             words = useful <= 6 ? 1 : 1 << (useful - 6);
@@ -1042,9 +1045,13 @@ public final class FewTypes {
             fillRows(0, places - 1);
             least[0] = 0;
             for (int set = 1; set <= all; set++) {
-                // the set before differs only up to the lowest place, so the rows behind it still hold
-                fillRows(set, lowestOf(set));
-                least[set] = isEnough(0, allUseful()) ? 1 : leastApart(set);
+                boolean once = false;
+                if (Integer.bitCount(set) <= capacity) {
+                    // the set before differs only up to the lowest place, so the rows behind it still hold
+                    fillRows(set, lowestOf(set));
+                    once = isEnough(0, allUseful());
+                }
+                least[set] = once ? 1 : leastApart(set);
             }
         }
 
@@ -1071,9 +1078,10 @@ public final class FewTypes {
 
         private int leastApart(int set) {
             int best = NEVER;
+            int bound = Math.max(2, cutUp(Integer.bitCount(set), capacity));
             int others = set & (set - 1);
             // one pull inks the lowest place; what it leaves runs down through the sets of the others
-            for (int left = others; left > 0 && best > 2; left = (left - 1) & others) {
+            for (int left = others; left > 0 && best > bound; left = (left - 1) & others) {
                 if (least[set ^ left] == 1 && least[left] + 1 < best) {
                     best = least[left] + 1;
                 }
@@ -1174,7 +1182,7 @@ public final class FewTypes {
             int to = p * WORDS;
             int from = behind * WORDS;
             for (int type = 0; printing >> type != 0; type++) {
-                if (inSet(printing, type)) {
+                if ((printing >> type & 1) != 0) {
                     if (type < LACKING.length) {
                         for (int word = 0; word < words; word++) {
                             rows[to + word] |= (rows[from + word] & LACKING[type]) << (1 << type);
