@@ -1,6 +1,13 @@
+import java.util.ArrayList;
+import java.util.List;
+
 /** Promises 12 to 18: what pulls can do, plans, orders, making; each sentence that names a boundary by itself. */
 public final class Sentences2Pulls extends Sentences {
     private static final String TEN_LETTERS = "abcdefghij", TEN_TYPES = "a,b,c,d,e,f,g,h,i,j";
+    /** Cases and lines, of up to eight places, in which more than one row of pulls or order is to be tried. */
+    private static final String[][] SHOPS = {{"a,b,c", "bcbcab"}, {"tca,tab,nbc,nba", "abbbbbaa"}, {"tac,c", "a_c_aa_aac"},
+        {"a,c,tbc", "bcbbbac"}, {"nac,tcb,a,a", "abcbacb"}, {"ncc,tbc,tba", "cc_aacacb"}, {"a,nca,nac,tbc,nab", "ababa_aaa"},
+        {"b,tba", "aba_a_a_a_b"}, {"nbc,nbb,c,b,nca", "bbcccc"}, {"nab,nba", "ababa"}};
 
     public static void main(String[] args) {
         runAll(Sentences2Pulls.class, 12, 18);
@@ -132,6 +139,32 @@ public final class Sentences2Pulls extends Sentences {
         due(0, shop(ring, "aaabcdefgh").can(1023));
         due(1, shop(ring, "aaabcdefgh").can(1022));
         due(0, shop("tab,tbc,tcd,tde,tef,tfg,tgh,thi,tij", TEN_LETTERS).can(1023));
+    }
+
+    static void p12_noOtherOfTenTypesStandsIn() {
+        String nine = "abcdefghi";
+        for (int twice = 1; twice < 9; twice++) {
+            FewTypes x = shop("a,b,c,d,e,f,g,h,i,a", nine + nine.charAt(twice));
+            int both = 1 << twice | 1 << 9;
+            due(0, x.can(both));
+            due(0, x.can(1023));
+            due(1, x.can(1023 - 512));
+            due(1, x.can(1023 - (1 << twice)));
+        }
+        due(1, shop("a,b,c,d,e,f,g,h,i,a", "abcdefghia").can(1023));
+    }
+
+    static void p12_whatWasToldBeforeCountsForNothing() {
+        FewTypes x = shop("nab,a", "ab");
+        due(1, x.can(3));
+        line(x, "ba");
+        due(0, x.can(3));
+        due(1, x.can(2));
+        line(x, "a_b");
+        due(0, x.can(3));
+        types(x, "b");
+        due(0, x.can(1));
+        due(1, x.can(2));
     }
 
     static void p12_withoutWedgesPlacesMayBeBeside() {
@@ -340,6 +373,47 @@ public final class Sentences2Pulls extends Sentences {
         due(2, wedged("nab,nab", "abab").fewest());
     }
 
+    /** All rows of pulls are tried, by what can() answers. */
+    private static void dueFirstOfAllRows(FewTypes x) {
+        int all = (1 << x.count(1)) - 1;
+        int[] least = new int[all + 1];
+        boolean[] can = new boolean[all + 1];
+        for (int set = 1; set <= all; set++) {
+            can[set] = x.can(set) == 1;
+            least[set] = 99;
+            for (int pull = 1; pull <= set; pull++) {
+                if ((pull & ~set) == 0 && can[pull]) {
+                    least[set] = Math.min(least[set], 1 + least[set - pull]);
+                }
+            }
+        }
+        due(least[all] == 99 ? NONE : least[all], x.fewest());
+        if (least[all] < 99) {
+            dueText(firstRow(all, least, can), planOf(x));
+        }
+    }
+
+    private static String firstRow(int all, int[] least, boolean[] can) {
+        StringBuilder row = new StringBuilder();
+        int rest = all;
+        while (rest != 0) {
+            int pull = 1;
+            while ((pull & ~rest) != 0 || !can[pull] || least[rest - pull] != least[rest] - 1) {
+                pull++;
+            }
+            row.append(row.length() == 0 ? "" : " ").append(pull);
+            rest -= pull;
+        }
+        return row.toString();
+    }
+
+    static void p14_theLeastOfAllRowsOfPulls() {
+        for (String[] s : SHOPS) {
+            dueFirstOfAllRows(shop(s[0], s[1]));
+            dueFirstOfAllRows(wedged(s[0], s[1]));
+        }
+    }
+
     static void p14_fewestIsFoundAnew() {
         FewTypes x = shop("a,b", "aab");
         due(2, x.fewest());
@@ -439,6 +513,16 @@ public final class Sentences2Pulls extends Sentences {
         line(x, "aaa");
         x.needs(0);
         dueText("2 5", planOf(x));
+    }
+
+    static void p15_onePullBehindAnotherPlan() {
+        FewTypes x = shop("a", "aa");
+        dueText("1 2", planOf(x));
+        types(x, "a,b,c");
+        line(x, "abc");
+        dueText("7", planOf(x));
+        line(x, "a");
+        dueText("1", planOf(x));
     }
 
     static void p15_planChangesNothing() {
@@ -659,6 +743,89 @@ public final class Sentences2Pulls extends Sentences {
         dueText("2 0 1", orderOf(x));
     }
 
+    /** All orders are tried, hair by hair. */
+    private static void dueBestOfAllOrders(FewTypes x, int creep) {
+        x.rule(1, creep);
+        int pulls = x.fewest();
+        int places = x.count(1);
+        int[] pullOf = new int[places];
+        int[] left = new int[places + 1];
+        for (int place = 0; place < places; place++) {
+            left[place] = x.place(place, 1);
+            for (int k = 0; k < pulls; k++) {
+                pullOf[place] = (x.plan(k) >> place & 1) == 1 ? k : pullOf[place];
+            }
+        }
+        left[places] = x.count(2);
+        int[] wide = new int[places];
+        for (int place = 0; place < places; place++) {
+            wide[place] = left[place + 1] - left[place] - (x.place(place, 2) == 0 && place + 1 < places ? 2 : 0);
+        }
+        int best = 999;
+        String first = "";
+        for (String order : orders("012345".substring(0, pulls))) {
+            int clashes = clashes(order, pullOf, left, wide, creep);
+            if (clashes < best) {
+                best = clashes;
+                first = order;
+            }
+        }
+        due(best, x.order(-2));
+        due(clashes("012345", pullOf, left, wide, creep), x.order(-1));
+        dueText(first, orderOf(x).replace(" ", ""));
+    }
+
+    private static int clashes(String order, int[] pullOf, int[] left, int[] wide, int creep) {
+        int found = 0;
+        for (int p = 0; p < wide.length; p++) {
+            for (int q = 0; q < p; q++) {
+                int from = left[p] + creep * order.indexOf('0' + pullOf[p]);
+                int other = left[q] + creep * order.indexOf('0' + pullOf[q]);
+                boolean over = false;
+                for (int hair = from; hair < from + wide[p]; hair++) {
+                    over |= hair >= other && hair < other + wide[q];
+                }
+                found += over ? 1 : 0;
+            }
+        }
+        return found;
+    }
+
+    /** All rows of these signs, the first one first. */
+    private static List<String> orders(String signs) {
+        List<String> all = new ArrayList<>();
+        if (signs.length() < 2) {
+            all.add(signs);
+            return all;
+        }
+        for (int i = 0; i < signs.length(); i++) {
+            for (String rest : orders(signs.substring(0, i) + signs.substring(i + 1))) {
+                all.add(signs.charAt(i) + rest);
+            }
+        }
+        return all;
+    }
+
+    static void p17_theBestOfAllOrders() {
+        for (String[] s : SHOPS) {
+            for (int creep = 1; creep <= 3; creep++) {
+                FewTypes x = creep == 2 ? wedged(s[0], s[1]) : shop(s[0], s[1]);
+                x.width(0, 4);
+                x.width(1, 1);
+                x.width(2, creep);
+                if (x.fewest() > 0 && x.fewest() < 7) {
+                    dueBestOfAllOrders(x, creep);
+                }
+            }
+        }
+    }
+
+    static void p17_ofTenPlaces() {
+        dueBestOfAllOrders(creeping(shop("a,b", "aabbaabbab"), 0, 3, 2), 1);
+        dueBestOfAllOrders(creeping(wedged("a,b,c,nab", "cabcabab_c"), 0, 4, 1, 3), 2);
+        dueBestOfAllOrders(creeping(shop("a,a,b", "aaaaabbbba"), 0, 1, 4), 3);
+    }
+
     static void p17_orderChangesNothing() {
         same(0, x -> x.order(0));
         same(BAD, x -> x.order(-3));
@@ -819,6 +986,33 @@ public final class Sentences2Pulls extends Sentences {
         x.make(1);
         due(2, x.fewest());
         dueText("1 2", planOf(x));
+    }
+
+    static void p18_onlyThePullsOfThisPlanWear() {
+        FewTypes x = shop("ma9", "aaaa");
+        due(4, x.fewest());
+        line(x, "a");
+        x.make(2);
+        dueText("ma7", typesOf(x));
+        line(x, "aaa");
+        x.make(1);
+        dueText("ma4", typesOf(x));
+        x = shop("ma9,b", "abbb");
+        dueText("2 4 9", planOf(x));
+        line(x, "aab");
+        dueText("1 6", planOf(x));
+        x.make(1);
+        dueText("ma7,b", typesOf(x));
+    }
+
+    static void p18_whatWasAskedBeforeCountsForNothing() {
+        FewTypes x = shop("ma9,mb9,nab", "b_b_b_a");
+        x.text(0);
+        line(x, "ab");
+        due(1, x.fewest());
+        due(3, x.needs(0));
+        x.make(1);
+        dueText("ma8,mb8,nab", typesOf(x));
     }
 
     static void p18_allElseStays() {

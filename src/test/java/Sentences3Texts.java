@@ -425,6 +425,20 @@ public final class Sentences3Texts extends Sentences {
         due(127, withJobs(1, 7, 1, 7, 1, 6, 1, 5, 1, 4, 1, 3, 1, 2, 1, 1).done());
     }
 
+    static void p24_howeverFourJobsCome() {
+        int[] exact = {1, 1, 2, 3, 3, 6, 4, 10};
+        for (int i = 0; i < 256; i++) {
+            int[] come = {i & 3, i >> 2 & 3, i >> 4 & 3, i >> 6};
+            if ((1 << come[0] | 1 << come[1] | 1 << come[2] | 1 << come[3]) == 15) {
+                FewTypes x = new FewTypes();
+                for (int job : come) {
+                    x.job(exact[2 * job], exact[2 * job + 1]);
+                }
+                due(15, x.done());
+            }
+        }
+    }
+
     static void p24_theMostJobs() {
         due(6, withJobs(10, 10, 5, 5, 5, 10).done());
         due(14, withJobs(9, 9, 3, 9, 3, 9, 3, 9).done());

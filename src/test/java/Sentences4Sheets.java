@@ -185,7 +185,17 @@ public final class Sentences4Sheets extends Sentences {
         due(NONE, made(x, 0, 4, 4));
         due(NONE, made(x, 0, 3, 7));
         due(NONE, made(x, 0, 2, 6));
+        due(NONE, made(x, 2, 2, 4));
         due(2, made(x, 0, 2, 5));
+    }
+
+    static void p28_aNumberBeyondThePlacesLeavesAGap() {
+        due(NONE, made(creeping("a", "aaaaaaaaaa", 1), 0, 3, 6, 9, 12, 15, 18, 21, 24, 28));
+        due(NONE, made(creeping("a", "aaaaaaaaaa", 1), 10, 3, 6, 9, 12, 15, 18, 21, 24, 27));
+        due(10, made(creeping("a", "aaaaaaaaaa", 1), 0, 3, 6, 9, 12, 15, 18, 21, 24, 27));
+        due(NONE, made(creeping("a", "aa", 1), 0, 4));
+        due(NONE, made(creeping("a", "aa", 1), 0, 14));
+        due(NONE, made(creeping("a", "aa", 1), 0, 34));
     }
 
     static void p28_theSetsCan() {
