@@ -1181,7 +1181,7 @@ public final class FewTypes {
         private void addWays(int p, int behind, int printing) {
             int to = p * WORDS;
             int from = behind * WORDS;
-            for (int type = 0; printing >> type != 0; type++) {
+            for (int type = 0; type < useful && printing >> type != 0; type++) {
                 if ((printing >> type & 1) != 0) {
                     if (type < LACKING.length) {
                         for (int word = 0; word < words; word++) {

@@ -117,6 +117,24 @@ public final class FaceTests {
         return found;
     }
 
+    /** A loop holds a counter against a bound; a shift is no such thing. */
+    private static boolean endsInSight(String line) {
+        if (line.startsWith("while (")) {
+            return line.replaceAll("<<|>>>?", "").matches(".*[<>].*");
+        }
+        if (line.startsWith("for (") && !line.contains(" : ")) {
+            String[] parts = line.split(";");
+            return parts.length == 3 && parts[1].replaceAll("<<|>>>?", "").matches(".*[<>].*");
+        }
+        return !line.matches("(for|while|do)\\b.*") || line.startsWith("for (");
+    }
+
+    /** All calls of a run live in one room, so rows are made as fields, or in the two constructors that fill them. */
+    private static boolean madeOnce(String line) {
+        return line.matches("(private )?final [\\w\\[\\]]+ \\w+ = new .*;") || line.equals("sheets[i] = new Sheet();")
+                || line.equals("texts[i] = new Line();");
+    }
+
     private static void source() throws IOException {
         List<String> lines = Files.readAllLines(Path.of("src/main/java/FewTypes.java"));
         for (int i = 0; i < lines.size(); i++) {
@@ -128,6 +146,8 @@ public final class FaceTests {
             for (String foreign : FOREIGN) {
                 due("line " + (i + 1) + " has " + foreign, !line.contains(foreign));
             }
+            due("line " + (i + 1) + " has a loop whose end can't be seen", endsInSight(bare));
+            due("line " + (i + 1) + " makes an object in a call", !line.contains("new ") || madeOnce(bare));
             due("line " + (i + 1) + " imports", !bare.startsWith("import") || bare.equals("import java.util.Arrays;"));
             if (line.matches("( {4}| {8})[a-zA-Z].*\\) \\{") && !bare.matches("(if|for|while|switch)\\b.*")) {
                 String end = line.substring(0, line.indexOf(bare)) + "}";
